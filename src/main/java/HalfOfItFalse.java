@@ -1358,8 +1358,10 @@ public final class HalfOfItFalse {
             }
             int body = BODIES[ACTS * owner + act];
             note(body);
-            int above = ABOVE[owner];
-            int deeper = depth + 1;
+            return resultOf(body, ABOVE[owner], x, depth + 1);
+        }
+
+        private int resultOf(int body, int above, int x, int deeper) {
             switch (body) {
                 case 10:
                     return x + m;

@@ -699,6 +699,9 @@ public final class PromiseTest {
         due("as ints", 4 + 3 + 0, x.errands(1, 0));
         due("as ints", 0b11010, x.placed(1, 0));
         due("all, if they are fewer", 3, x.errands(1, 1));
+        Checks.fill(x, 1, 2, 3, 2);
+        due("all, if they are fewer", 4 + 3, x.errands(1, 0));
+        due("all, if they are fewer", 0b11, x.placed(1, 0));
         x.row(2, 1, 10);
         due("ten", 0, x.errands(2, 0));
         due("ten", 0b111, x.placed(2, 0));
@@ -814,6 +817,16 @@ public final class PromiseTest {
             y.say(i / 8, 0, i % 2 == 0);
         }
         due("room isn't asked", -1, y.judge(0, 24));
+        HalfOfItFalse z = Checks.make(1, 10, 5, 0, 0, 0, 1, 1, 1);
+        z.known(0, true);
+        z.row(0, 2, 24);
+        for (int i = 0; i < 24; i++) {
+            z.set(0, i, 100 * (3 + i / 8) + (i % 8 < 5 ? 1 : 0));
+            z.say(i / 8, 0, i % 2 == 0);
+        }
+        due("all 48 can be", -1, z.judge(0, 24));
+        z.set(0, 23, 501);
+        due("the last of 48 can't be", 23, z.judge(0, 24));
         y.set(0, 23, 600);
         due("no such speaker", 23, y.judge(0, 24));
         due("still said", 24, y.status(2));
