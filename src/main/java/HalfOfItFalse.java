@@ -1191,13 +1191,15 @@ public final class HalfOfItFalse {
             return true;
         }
 
-        private boolean isWord(String word) {
+        /** A word that can't stand as things are is a fault of its own, once all of it is there. */
+        private boolean isWord(String word, boolean canStand) {
+            int start = at;
             for (int i = 0; i < word.length(); i++) {
                 if (!isSign(word.charAt(i))) {
                     return false;
                 }
             }
-            return isSign(' ');
+            return canStand ? isSign(' ') : wrong(start);
         }
 
         private boolean isNumber(int least, int most) {
@@ -1214,21 +1216,20 @@ public final class HalfOfItFalse {
             return letter() >= '0' && letter() <= '9';
         }
 
-        /** What can't be told at all as things stand is a fault of its word's first letter. */
         private boolean readItem() {
             boolean good;
             switch (letter()) {
                 case 'f':
-                    good = told.facts < MOST_FACTS ? readFact() : wrong(at);
+                    good = readFact();
                     break;
                 case 'm':
-                    good = told.speakers < MOST_SPEAKERS ? readMan() : wrong(at);
+                    good = readMan();
                     break;
                 case 'l':
-                    good = told.sayings == 0 ? readLaw() : wrong(at);
+                    good = readLaw();
                     break;
                 case 's':
-                    good = told.sayings < MOST_SAYINGS ? readSays() : wrong(at);
+                    good = readSays();
                     break;
                 case 'k':
                     good = readKnown();
@@ -1242,7 +1243,7 @@ public final class HalfOfItFalse {
         }
 
         private boolean readFact() {
-            if (!isWord("fact") || !isNumber(0, MOST_HARM)) {
+            if (!isWord("fact", told.facts < MOST_FACTS) || !isNumber(0, MOST_HARM)) {
                 return false;
             }
             told.addFact(number);
@@ -1250,7 +1251,7 @@ public final class HalfOfItFalse {
         }
 
         private boolean readMan() {
-            if (!isWord("man") || !isNumber(SPEAKER, PAIRS)) {
+            if (!isWord("man", told.speakers < MOST_SPEAKERS) || !isNumber(SPEAKER, PAIRS)) {
                 return false;
             }
             int kind = number;
@@ -1262,7 +1263,7 @@ public final class HalfOfItFalse {
         }
 
         private boolean readLaw() {
-            if (!isWord("law") || !isNumber(LEAST_DAY, MOST_DAY)) {
+            if (!isWord("law", told.sayings == 0) || !isNumber(LEAST_DAY, MOST_DAY)) {
                 return false;
             }
             int perDay = number;
@@ -1275,7 +1276,7 @@ public final class HalfOfItFalse {
         }
 
         private boolean readSays() {
-            if (!isWord("says") || !isNumber(0, told.speakers - 1)) {
+            if (!isWord("says", told.sayings < MOST_SAYINGS) || !isNumber(0, told.speakers - 1)) {
                 return false;
             }
             int speaker = number;
@@ -1298,7 +1299,7 @@ public final class HalfOfItFalse {
         }
 
         private boolean readKnown() {
-            if (!isWord("known") || !isNumber(0, told.facts - 1)) {
+            if (!isWord("known", true) || !isNumber(0, told.facts - 1)) {
                 return false;
             }
             int fact = number;

@@ -403,24 +403,14 @@ final class PlainTown {
     }
 
     private int readItem(String text) {
-        List<String> words = new ArrayList<>(List.of("known "));
-        if (harms.size() < 6) {
-            words.add("fact ");
-        }
-        if (speakers.size() < 6) {
-            words.add("man ");
-        }
-        if (sayings.isEmpty()) {
-            words.add("law ");
-        }
-        if (sayings.size() < 24) {
-            words.add("says ");
-        }
         int farthest = 0;
-        for (String word : words) {
+        for (String word : List.of("fact", "man", "law", "says", "known")) {
             if (text.startsWith(word, at)) {
+                if (!canStand(word)) {
+                    return at;
+                }
                 at += word.length();
-                return readNumbers(text, word);
+                return isBlank(text) ? readNumbers(text, word) : at;
             }
             int same = 0;
             while (at + same < text.length() && same < word.length()
@@ -430,6 +420,21 @@ final class PlainTown {
             farthest = Math.max(farthest, same);
         }
         return at + farthest;
+    }
+
+    private boolean canStand(String word) {
+        switch (word) {
+            case "fact":
+                return harms.size() < 6;
+            case "man":
+                return speakers.size() < 6;
+            case "law":
+                return sayings.isEmpty();
+            case "says":
+                return sayings.size() < 24;
+            default:
+                return true;
+        }
     }
 
     private boolean isNumber(String text, int least, int most) {
@@ -459,13 +464,13 @@ final class PlainTown {
         int a;
         int b;
         switch (word) {
-            case "fact ":
+            case "fact":
                 if (!isNumber(text, 0, 99)) {
                     return first;
                 }
                 addFact(number);
                 return -1;
-            case "man ":
+            case "man":
                 if (!isNumber(text, 0, 6)) {
                     return first;
                 }
@@ -475,7 +480,7 @@ final class PlainTown {
                 }
                 speakers.add(new int[] {a, number});
                 return -1;
-            case "law ":
+            case "law":
                 if (!isNumber(text, 2, 10)) {
                     return first;
                 }
@@ -486,7 +491,7 @@ final class PlainTown {
                 n = a;
                 t = number;
                 return -1;
-            case "says ":
+            case "says":
                 if (!isNumber(text, 0, speakers.size() - 1) || isFull(number)) {
                     return first;
                 }

@@ -7,6 +7,7 @@ public final class TextTest {
         wordFaults();
         numberFaults();
         standingFaults();
+        wordsThatCannotStand();
         allOrNothing();
         refusals();
         C.end();
@@ -155,6 +156,51 @@ public final class TextTest {
         bad(y, "man 1 1;man 1 1;man 1 1;man 1 1;man 1 1;man 1 1;man 1 1", 48);
         HalfOfItFalse z = Checks.make(1, 2, 1, 0);
         bad(z, "says 0 0 1;says 0 0 0;says 0 0 1", 27);
+    }
+
+    /** A town in which there is no room for anything more, and so no law either. */
+    private static HalfOfItFalse fullTown() {
+        HalfOfItFalse x = Checks.make(6, 10, 5, 0, 0, 0, 0, 0, 0);
+        for (int i = 0; i < 24; i++) {
+            x.say(i / 8, 0, i % 2 == 0);
+        }
+        C.due("sayings", 24, x.status(2));
+        return x;
+    }
+
+    private static void wordsThatCannotStand() {
+        C.about("19 words that can't stand, and what is no such word yet");
+        HalfOfItFalse x = fullTown();
+        for (String word : new String[] {"fact", "man", "law", "says"}) {
+            wordThatCannotStand(x, "", word);
+            wordThatCannotStand(x, "known 0 1;", word);
+            wordThatCannotStand(x, "known 5 0;known 5 0;", word);
+        }
+        HalfOfItFalse y = Checks.make(5, 4, 2, 0, 0, 0, 0, 0);
+        bad(y, "fact 1;fac", 10);
+        bad(y, "fact 1;fact", 7);
+        bad(y, "man 0 0;m", 9);
+        bad(y, "man 0 0;man", 8);
+        bad(y, "says 0 0 1;l", 12);
+        bad(y, "says 0 0 1;la 4 2", 13);
+        bad(y, "says 0 0 1;law", 11);
+        bad(y, "la", 2);
+        bad(y, "law", 3);
+    }
+
+    /** Its letters may begin a text as long as there are more to come. */
+    private static void wordThatCannotStand(HalfOfItFalse x, String ahead, String word) {
+        int start = ahead.length();
+        for (int i = 0; i < word.length(); i++) {
+            String begun = ahead + word.substring(0, i);
+            bad(x, begun, start + i);
+            bad(x, begun + "x", start + i);
+            bad(x, begun + " 4 2 1", start + i);
+            bad(x, begun + ";" + word, start + i);
+        }
+        for (String behind : new String[] {"", " ", " 4 2 1", " x", ";" + word, "4"}) {
+            bad(x, ahead + word + behind, start);
+        }
     }
 
     private static void allOrNothing() {
