@@ -18,6 +18,22 @@ final class Checks {
         }
     }
 
+    /** A text in shelf 0 is told, so many items of it. */
+    void good(HalfOfItFalse x, String text, int items) {
+        write(x, 0, text);
+        due("town " + text, items, x.town(0));
+        due("fault of " + text, -1, x.fault());
+    }
+
+    /** A text in shelf 0 has its fault at a place, and is refused. */
+    void bad(HalfOfItFalse x, String text, int fault) {
+        write(x, 0, text);
+        int refused = x.status(16);
+        due("town " + text, -6, x.town(0));
+        due("fault of " + text, fault, x.fault());
+        due("refused", refused + 1, x.status(16));
+    }
+
     boolean isGood() {
         return wrong == 0;
     }
@@ -42,6 +58,17 @@ final class Checks {
         for (int i = 0; i < elements.length; i++) {
             x.set(s, i, elements[i]);
         }
+    }
+
+    /** The worlds (bits) of so many facts in which a fact is so. */
+    static long worldsWith(int facts, int fact) {
+        long bits = 0;
+        for (int w = 0; w < 1 << facts; w++) {
+            if ((w >> fact & 1) == 1) {
+                bits |= 1L << w;
+            }
+        }
+        return bits;
     }
 
     /** A town of the kinds with a = 5, and so many facts of harm 1, 2, 3 and so on. */

@@ -5,7 +5,11 @@ import java.util.Random;
 /** Long runs of calls, each answered by the class and by PlainTown. */
 public final class ModelTest {
     private static final Checks CHECKS = new Checks();
+    /** An object is used for at most 512 calls; the dearest round and the last look need some. */
+    private static final int LAST_ROUND_BEGINS = 380;
+    private static final int MOST_CALLS = 512;
 
+    private int calls = 1;
     private final Random dice;
     private final HalfOfItFalse x = new HalfOfItFalse();
     private PlainTown town = new PlainTown();
@@ -22,7 +26,7 @@ public final class ModelTest {
     }
 
     public static void main(String[] args) {
-        for (int run = 0; run < 400 && CHECKS.isGood(); run++) {
+        for (int run = 0; run < 3000 && CHECKS.isGood(); run++) {
             CHECKS.about("run " + run);
             new ModelTest(run).goThrough();
         }
@@ -30,6 +34,7 @@ public final class ModelTest {
     }
 
     private void due(String call, long want, long got) {
+        calls++;
         CHECKS.due(call, want, got);
     }
 
@@ -53,13 +58,15 @@ public final class ModelTest {
 
     private void goThrough() {
         start();
-        for (int call = 0; call < 150 && CHECKS.isGood(); call++) {
+        while (calls < LAST_ROUND_BEGINS && CHECKS.isGood()) {
             oneCall(dice.nextInt(46));
             if (dice.nextInt(3) == 0) {
                 say();
             }
-            checkStatus();
+            due("many", town.worlds().size(), x.many());
         }
+        checkStatus();
+        CHECKS.due("no more calls than are promised", 1, calls <= MOST_CALLS ? 1 : 0);
     }
 
     private void start() {
@@ -71,6 +78,9 @@ public final class ModelTest {
         }
         for (int i = dice.nextInt(7); i > 0; i--) {
             speaker();
+        }
+        for (int i = dice.nextInt(4) == 0 ? 60 : 0; i > 0; i--) {
+            say();
         }
     }
 
@@ -407,6 +417,7 @@ public final class ModelTest {
         int s = some(8);
         if (isShelf(s)) {
             Checks.write(x, s, text.toString());
+            calls += 1 + text.length();
             long[] row = new long[text.length()];
             for (int i = 0; i < row.length; i++) {
                 row[i] = text.charAt(i);

@@ -14,17 +14,11 @@ public final class TextTest {
     }
 
     private static void good(HalfOfItFalse x, String text, int items) {
-        Checks.write(x, 0, text);
-        C.due("town " + text, items, x.town(0));
-        C.due("fault of " + text, -1, x.fault());
+        C.good(x, text, items);
     }
 
     private static void bad(HalfOfItFalse x, String text, int fault) {
-        Checks.write(x, 0, text);
-        int refused = x.status(16);
-        C.due("town " + text, -6, x.town(0));
-        C.due("fault of " + text, fault, x.fault());
-        C.due("refused", refused + 1, x.status(16));
+        C.bad(x, text, fault);
     }
 
     private static void bad(String text, int fault) {
@@ -170,11 +164,10 @@ public final class TextTest {
 
     private static void wordsThatCannotStand() {
         C.about("19 words that can't stand, and what is no such word yet");
-        HalfOfItFalse x = fullTown();
         for (String word : new String[] {"fact", "man", "law", "says"}) {
-            wordThatCannotStand(x, "", word);
-            wordThatCannotStand(x, "known 0 1;", word);
-            wordThatCannotStand(x, "known 5 0;known 5 0;", word);
+            wordThatCannotStand("", word);
+            wordThatCannotStand("known 0 1;", word);
+            wordThatCannotStand("known 5 0;known 5 0;", word);
         }
         HalfOfItFalse y = Checks.make(5, 4, 2, 0, 0, 0, 0, 0);
         bad(y, "fact 1;fac", 10);
@@ -189,17 +182,17 @@ public final class TextTest {
     }
 
     /** Its letters may begin a text as long as there are more to come. */
-    private static void wordThatCannotStand(HalfOfItFalse x, String ahead, String word) {
+    private static void wordThatCannotStand(String ahead, String word) {
         int start = ahead.length();
         for (int i = 0; i < word.length(); i++) {
             String begun = ahead + word.substring(0, i);
-            bad(x, begun, start + i);
-            bad(x, begun + "x", start + i);
-            bad(x, begun + " 4 2 1", start + i);
-            bad(x, begun + ";" + word, start + i);
+            bad(fullTown(), begun, start + i);
+            bad(fullTown(), begun + "x", start + i);
+            bad(fullTown(), begun + " 4 2 1", start + i);
+            bad(fullTown(), begun + ";" + word, start + i);
         }
         for (String behind : new String[] {"", " ", " 4 2 1", " x", ";" + word, "4"}) {
-            bad(x, ahead + word + behind, start);
+            bad(fullTown(), ahead + word + behind, start);
         }
     }
 
