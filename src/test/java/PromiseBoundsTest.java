@@ -606,6 +606,18 @@ public final class PromiseBoundsTest {
             }
             x.say(0, 0, said == 0);
         }
+        C.about("Promise 21: can: truly, or falsely, alone, up to their day's end");
+        String[] rows = {"1100", "0011"};
+        for (int turn = 0; turn < 2; turn++) {
+            HalfOfItFalse z = Checks.make(1, 4, 2, 1 + turn);
+            z.known(0, true);
+            for (int i = 0; i <= 4; i++) {
+                boolean truth = i < 4 && rows[turn].charAt(i) == '1';
+                due("truly, number " + i, truth ? 1 : 0, z.can(0, 0, 1));
+                due("falsely, number " + i, i < 4 && !truth ? 1 : 0, z.can(0, 0, 0));
+                z.say(0, 0, truth);
+            }
+        }
         C.about("Promise 21: can: -5 another what; -1");
         for (int what : new int[] {-1, 4, SMALL, BIG}) {
             due("what " + what, -5, x.can(0, 0, what));

@@ -354,6 +354,11 @@ public final class Term1TextTest {
             for (int i = 0; i < text.length(); i++) {
                 if (!Character.isDigit(text.charAt(i))) {
                     bad(small(), text.substring(0, i) + "!" + text.substring(i + 1), i);
+                    bad(small(), text.substring(0, i) + "x" + text.substring(i + 1), i);
+                }
+                if (Character.isLetter(text.charAt(i))) {
+                    bad(small(), text.substring(0, i) + "1", i);
+                    bad(small(), text.substring(0, i) + " 1 1 1", i);
                 }
                 bad(small(), text.substring(0, i) + "!", i);
             }

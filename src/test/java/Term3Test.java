@@ -34,6 +34,7 @@ public final class Term3Test {
         askedAsTheyCan();
         askedNeither();
         askedChangesNothing();
+        askedByADrawChangesNothing();
         shelves();
         sorts();
         asInts();
@@ -149,6 +150,16 @@ public final class Term3Test {
         }
         due("KIND, none left", -1, y.tree(1));
         due("no speaker", -1, Checks.make(2, 3, 1).tree(1));
+        C.about("Term 3: KNOWN: no QUESTION to one who is no SPEAKER, about what is no FACT");
+        HalfOfItFalse none = Checks.make(1, 2, 0);
+        due("all would lie, but there is none", 0, none.knows(0, 2));
+        none.speaker(0, 0);
+        due("one who lies", 1, none.knows(0, 1));
+        HalfOfItFalse all = Checks.make(6, 10, 5, 0, 0, 0, 0, 0, 0);
+        for (int k = 0; k <= 2; k++) {
+            due("six and six, in " + k, 0, all.knows(5, k));
+        }
+        due("six and six", -1, all.tree(5));
     }
 
     private static void knownWithoutRoom() {
@@ -229,7 +240,7 @@ public final class Term3Test {
 
     private static void tells() {
         C.about("Term 3: TELLS: the greatest number of messages is the number of rows");
-        for (int n = 2; n <= 10; n += 2) {
+        for (int n = 2; n <= 10; n++) {
             for (int t = 0; t <= n; t++) {
                 HalfOfItFalse x = Checks.make(0, n, t, 0, 1, 6);
                 due("one message: by none said", 0, x.tells(0, 1));
@@ -394,6 +405,11 @@ public final class Term3Test {
         due("of two the first", 4, x.witness());
         x.say(5, 2, true);
         due("who said more", 5, x.witness());
+        HalfOfItFalse y = Checks.make(3, 4, 2, 1, 1);
+        y.say(1, 0, true);
+        y.say(0, 1, true);
+        y.say(0, 2, true);
+        due("the first said more", 0, y.witness());
         x.say(3, 0, true);
         x.say(3, 2, true);
         due("what two say is left by either", 4, x.witness());
@@ -564,6 +580,21 @@ public final class Term3Test {
             }
             due("without a draw", seed, x.status(7));
         }
+        C.about("Term 3: KIND and SLY asked IN TRUTH, though the drawn WORLD lets them say no more");
+        HalfOfItFalse y = Checks.make(2, 4, 2, 1, 2);
+        y.draw();
+        boolean first = y.truly(1) == 1 || y.truly(3) == 1;
+        int second = y.truly(2) + y.truly(3);
+        y.say(0, 0, !first);
+        due("not the drawn one", 0, y.canBe(0, (first ? 1 : 0) + 2 * second));
+        due("true, by the drawn one", second, y.ask(0, 1));
+        HalfOfItFalse z = Checks.make(2, 4, 2, 1, 2);
+        z.draw();
+        first = z.truly(1) == 1 || z.truly(3) == 1;
+        second = z.truly(2) + z.truly(3);
+        due("a lie: it is other than drawn", 2, z.say(1, 0, first));
+        due("a lie about it is true in what is left", -6, z.ask(1, 0));
+        due("a lie, by the drawn one", 1 - second, z.ask(1, 1));
     }
 
     private static void askedAsTheyCan() {
@@ -664,6 +695,48 @@ public final class Term3Test {
             due("said", 2, y.status(2));
         }
         due("refused", 120, refused);
+    }
+
+    /** In the drawn world both can be: a draw. What is left has one true and one false too few. */
+    private static void askedByADrawChangesNothing() {
+        C.about("Term 3: a SAYING that CAN'T be changes nothing, SEED neither, though it was drawn");
+        int refused = 0;
+        for (int seed = 0; seed < 60; seed++) {
+            HalfOfItFalse x = Checks.make(2, 4, 2, 0);
+            x.draw();
+            boolean first = x.truly(1) == 1 || x.truly(3) == 1;
+            boolean second = x.truly(2) == 1 || x.truly(3) == 1;
+            x.say(0, 0, first);
+            x.say(0, 1, !second);
+            x.known(0, first);
+            x.known(1, !second);
+            x.seed(seed);
+            if (place(seed, 2) == 1) {
+                due("true as drawn: a third true one in what is left", -6, x.ask(0, 0));
+                due("seed", seed, x.status(7));
+                due("sayings", 2, x.status(2));
+                refused++;
+            } else {
+                due("a lie as drawn", first ? 0 : 1, x.ask(0, 0));
+                due("seed", seed * 1103515245 + 12345, x.status(7));
+                due("sayings", 3, x.status(2));
+            }
+        }
+        due("some were refused, some not", 1, refused > 0 && refused < 60 ? 1 : 0);
+        C.about("REFUSALS: what there is no room for changes nothing, SEED neither");
+        for (int kind = 0; kind <= 6; kind += 6) {
+            HalfOfItFalse x = Checks.make(1, 8, 4, 0, 0, 0, kind);
+            for (int i = 0; i < 24; i++) {
+                x.say(i / 8, 0, i % 2 == 0);
+            }
+            x.draw();
+            int seed = x.status(7);
+            due("no room", -7, x.ask(3, 0));
+            due("seed", seed, x.status(7));
+            x.unsay();
+            due("room for one", place(seed, 2) == x.truly(1) ? 1 : 0, x.ask(3, 0));
+            due("seed", seed * 1103515245 + 12345, x.status(7));
+        }
     }
 
     private static void shelves() {
