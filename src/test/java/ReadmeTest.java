@@ -1,5 +1,7 @@
 import java.io.IOException;
 import java.lang.reflect.InvocationTargetException;
+import java.lang.reflect.Method;
+import java.lang.reflect.Modifier;
 import java.net.URL;
 import java.net.URLClassLoader;
 import java.nio.file.Files;
@@ -21,6 +23,7 @@ public final class ReadmeTest {
         C.about("README.md");
         C.due("each call has its answer behind it", 0,
                 NOT_ANSWERED.matcher(checked(blocks)).find() ? 1 : 0);
+        eachCallIsShown(blocks);
         run(checked(blocks));
         C.end();
     }
@@ -28,6 +31,15 @@ public final class ReadmeTest {
     /** Called by the compiled blocks. */
     public static void due(String call, long want, long got) {
         C.due(call, want, got);
+    }
+
+    private static void eachCallIsShown(String blocks) {
+        for (Method m : HalfOfItFalse.class.getDeclaredMethods()) {
+            if (Modifier.isPublic(m.getModifiers())) {
+                C.due(m.getName() + " is shown", 1,
+                        blocks.contains("town." + m.getName() + "(") ? 1 : 0);
+            }
+        }
     }
 
     private static String blocksOf(String text) {
